@@ -25,6 +25,7 @@ public final class SheetObjects {
     private static final int NAME_MOST = 127;
     private static final int NUMBER_MOST = 8388607;
     private static final int GENERATION_MOST = 65535;
+    private static final int AMOUNT_MOST = 2147483647;
     private static final int FEED_BYTES = 20;
 
     private static final int IS_NULL = 0;
@@ -41,7 +42,7 @@ public final class SheetObjects {
     private static final int LINE_FEED = 10;
     private static final int RETURN = 13;
 
-    // Rows of bytes, since a row is never made anew where a text might be.
+    // Bytes, not texts: what a run makes is counted, and these are made once for all calls.
     private static final byte[] NULL_WORD = {'n', 'u', 'l', 'l'};
     private static final byte[] TRUE_WORD = {'t', 'r', 'u', 'e'};
     private static final byte[] FALSE_WORD = {'f', 'a', 'l', 's', 'e'};
@@ -429,7 +430,7 @@ public final class SheetObjects {
             if (digits == 0) {
                 return false;
             }
-            real = point || whole > Integer.MAX_VALUE;
+            real = point || whole > AMOUNT_MOST;
             long size = real ? inParts(whole, part) : whole;
             amount = (int) (sign == '-' ? -size : size);
             return true;
@@ -437,7 +438,7 @@ public final class SheetObjects {
 
         private static long inParts(long whole, long part) {
             long rounded = (part * 65536 + BILLION / 2) / BILLION;
-            return Math.min(whole * 65536 + rounded, Integer.MAX_VALUE);
+            return Math.min(whole * 65536 + rounded, AMOUNT_MOST);
         }
     }
 
@@ -451,6 +452,7 @@ public final class SheetObjects {
         private final int[] ends;
         // How many bytes the nodes before have: where a string's or name's own begin.
         private final int[] starts;
+        // The first node of each object that was read.
         private final int[] firsts;
         private final byte[] bytes;
         private int nodes;
@@ -537,13 +539,13 @@ public final class SheetObjects {
         }
 
         void addPart(int node) {
-            if (has(node)) {
+            if (node >= 0 && node < nodes) {
                 values[node]++;
             }
         }
 
         void close(int node) {
-            if (has(node)) {
+            if (node >= 0 && node < nodes) {
                 ends[node] = nodes;
             }
         }

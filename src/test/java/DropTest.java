@@ -4,6 +4,7 @@ public final class DropTest {
 
     public static void main(String[] args) {
         dropsWholeObjects();
+        droppedBeginningsAreForgotten();
         streamsAreOne();
         roomIsThereAgain();
         counts();
@@ -53,6 +54,19 @@ public final class DropTest {
         bench.due("and read again", y.read(18), 5);
         bench.due("its bytes", Bench.bytes(y, 6), "wxyz");
         counted("two again", y, 8, 7, 2);
+    }
+
+    private static void droppedBeginningsAreForgotten() {
+        SheetObjects x = Bench.load("[1 2] 3 [4 5 6]");
+        x.read(0);
+        x.read(5);
+        x.read(7);
+        bench.due("drop the last two", x.drop(3), 5);
+        bench.due("an array instead", x.read(7), 3);
+        bench.illegal("where one began", () -> x.drop(4));
+        bench.due("drop all", x.drop(0), 7);
+        bench.due("the long one first", x.read(7), 0);
+        bench.illegal("where the second began", () -> x.drop(3));
     }
 
     private static void streamsAreOne() {

@@ -114,6 +114,11 @@ public final class NodesTest {
         bench.due("not in what lies within", x.find(x.read(0), 1), NONE);
         Bench.lay(x, "<<>>");
         bench.due("in an empty one", x.find(x.read(0), 1), NONE);
+        SheetObjects y = Bench.load("<</B 1>> /A 2");
+        y.read(0);
+        y.read(8);
+        y.read(11);
+        bench.due("not behind it", y.find(0, 3), NONE);
     }
 
     private static void alike(String one, String other, boolean want) {
@@ -142,6 +147,9 @@ public final class NodesTest {
         alike("1.50", "+1.5", true);
         alike("99999.", "3000000000", true);
         alike("01 00 R", "1 %\n 0 R", true);
+        SheetObjects y = Bench.load("[[1] 2 [1] 3]");
+        y.read(0);
+        bench.due("what stands behind does not matter", y.alike(1, 4), true);
         SheetObjects x = stream();
         bench.due("a stream and its dictionary", x.alike(10, 0), false);
         Bench.lay(x, "  2 5 obj <</A 1/B[2]/A 3/C null>>\nstream\r\n");

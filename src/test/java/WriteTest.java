@@ -137,5 +137,13 @@ public final class WriteTest {
         z.put(z.count(0) - 2, ')');
         z.put(z.count(0) - 1, ']');
         bench.due("an array around", z.write(z.read(0)), 32764 * 2 + 6);
+        SheetObjects w = Long65536.literal(32768);
+        w.put(0, '[');
+        w.put(1, '(');
+        w.put(w.count(0) - 2, ')');
+        w.put(w.count(0) - 1, ']');
+        bench.due("32,766 bytes in an array", w.write(w.read(0)), SheetObjects.FULL);
+        Bench.lay(w, "[[2]]");
+        bench.due("another array behind FULL", Bench.writing(w, w.read(0)), "[ [ 2 ] ]");
     }
 }
