@@ -1,6 +1,6 @@
 import java.nio.charset.StandardCharsets;
 
-/** All promises: runs of up to 512 calls, drawn by a fixed rule, answered as the model does. */
+/** All promises: runs of some 512 calls, drawn by a fixed rule, answered as the model does. */
 public final class ModelTest {
     private static final int CALLS = 512;
     private static final String[] PIECES = {"[", "]", "<<", ">>", "<", ">", "(", ")", "{", "}", "/",
