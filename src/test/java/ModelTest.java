@@ -1,8 +1,7 @@
 import java.nio.charset.StandardCharsets;
 
-/** All promises: runs of some 512 calls, drawn by a fixed rule, answered as the model does. */
+/** All promises: runs of 512 calls, drawn by a fixed rule, answered as the model does. */
 public final class ModelTest {
-    private static final int CALLS = 512;
     private static final String[] PIECES = {"[", "]", "<<", ">>", "<", ">", "(", ")", "{", "}", "/",
         "%", "\n", "\r", "\r\n", " ", " ", " ", "\0", "\t", "null", "true", "false", "1", "0", "65535",
         "65536", "8388607", "8388608", "2147483647", "2147483648", "-", "+", ".", ".5", "-1.25",
@@ -39,36 +38,38 @@ public final class ModelTest {
     }
 
     private static void run(int run) {
-        SheetObjects x = new SheetObjects();
+        Used x = new Used();
         Model model = new Model();
-        int calls = run % 100 == 0 ? fillNodes(run, x, model) : run % 100 == 1 ? fillBytes(run, x, model) : 0;
-        while (calls < CALLS && wrong < 20) {
-            if (draw(12) == 0) {
+        if (run % 100 == 0) {
+            fillNodes(run, x, model);
+        } else if (run % 100 == 1) {
+            fillBytes(run, x, model);
+        }
+        while (x.left() > 0 && wrong < 20) {
+            String text = draw(12) > 0 ? "" : draw(3) == 0 ? text() : sound();
+            if (!text.isEmpty() && feedCalls(text) < x.left()) {
                 int before = model.count(0);
-                calls += feedText(run, x, model, draw(3) == 0 ? text(CALLS - calls) : sound());
+                feedText(run, x, model, text);
                 both(run, draw(2) == 0 ? 3 : 5, x, model, before, 0);
-                calls++;
             } else {
                 int which = draw(18);
                 int[] in = {argument(model), argument(model), draw(2)};
-                calls++;
                 compare(run, which, in, answer(x, which, in), answer(model, which, in));
             }
         }
     }
 
     /** Leaves room for 1 to 40 nodes. */
-    private static int fillNodes(int run, SheetObjects x, Model model) {
-        int calls = feedText(run, x, model, "[" + "1 ".repeat(395 + draw(4)) + "]");
+    private static void fillNodes(int run, Used x, Model model) {
+        feedText(run, x, model, "[" + "1 ".repeat(395 + draw(4)) + "]");
         for (int i = 0; i < 10; i++) {
             both(run, 3, x, model, 0, 0);
         }
-        return calls + 10;
     }
 
     /** Leaves room for some 30 bytes: a string is written as twice its bytes and read again. */
-    private static int fillBytes(int run, SheetObjects x, Model model) {
-        int calls = feedText(run, x, model, "(" + "abcd".repeat(255) + "abc)");
+    private static void fillBytes(int run, Used x, Model model) {
+        feedText(run, x, model, "(" + "abcd".repeat(255) + "abc)");
         for (int i = 0; i < 5; i++) {
             both(run, 3, x, model, 0, 0);
             both(run, 14, x, model, 0, 0);
@@ -82,18 +83,17 @@ public final class ModelTest {
         both(run, 14, x, model, 0, 0);
         x.cut(0);
         model.cut(0);
-        return calls + 33;
     }
 
-    private static void both(int run, int which, SheetObjects x, Model model, int a, int b) {
+    private static void both(int run, int which, Used x, Model model, int a, int b) {
         int[] in = {a, b, 0};
         compare(run, which, in, answer(x, which, in), answer(model, which, in));
     }
 
-    private static String text(int calls) {
+    private static String text() {
         StringBuilder text = new StringBuilder();
         String[] pieces = draw(2) == 0 ? PIECES : TAME;
-        int many = Math.min(draw(draw(8) == 0 ? 120 : 12) + 1, calls);
+        int many = draw(draw(8) == 0 ? 120 : 12) + 1;
         for (int i = 0; i < many; i++) {
             text.append(draw(40) == 0 ? String.valueOf((char) draw(256)) : pieces[draw(pieces.length)]);
         }
@@ -153,22 +153,24 @@ public final class ModelTest {
         }
     }
 
-    private static int feedText(int run, SheetObjects x, Model model, String text) {
+    /** How many calls it takes to feed a text and to cut the blanks behind it. */
+    private static int feedCalls(String text) {
+        return (text.length() + 19) / 20 + 1;
+    }
+
+    private static void feedText(int run, Used x, Model model, String text) {
         byte[] bytes = text.getBytes(StandardCharsets.ISO_8859_1);
-        int calls = 0;
         for (int at = 0; at < bytes.length; at += 20) {
             int[] fours = new int[5];
             for (int i = 0; i < 20; i++) {
                 int b = at + i < bytes.length ? bytes[at + i] & 255 : ' ';
                 fours[i / 4] = fours[i / 4] << 8 | b;
             }
-            calls++;
             compare(run, 0, fours, x.feed(fours[0], fours[1], fours[2], fours[3], fours[4]),
                     model.feed(fours[0], fours[1], fours[2], fours[3], fours[4]));
         }
         int cut = model.count(0) - (20 - bytes.length % 20) % 20;
         compare(run, 2, new int[] {cut, 0, 0}, x.cut(cut), model.cut(cut));
-        return calls + 1;
     }
 
     /** A place, a node, a small number, or one that is far off. */
@@ -196,7 +198,7 @@ public final class ModelTest {
     private static final int ILLEGAL = 1000000002;
     private static final int OTHER = 1000000003;
 
-    private static int answer(SheetObjects x, int which, int[] in) {
+    private static int answer(Used x, int which, int[] in) {
         try {
             switch (which) {
                 case 1: return x.put(in[0], someByte(in));

@@ -9,11 +9,11 @@ import java.util.Set;
 public final class RoomTest {
     public static void main(String[] args) throws IllegalAccessException {
         Bench bench = new Bench();
-        SheetObjects x = new SheetObjects();
+        Used x = new Used();
         long before = elements(x);
         bench.due("less than 300,000 fields and elements", before < 300000, true);
         Set<Object> rows = held(x);
-        Bench.lay(x, "1 0 obj [(a) <</B 1.5>> 2 0 R] endobj");
+        x.lay("1 0 obj [(a) <</B 1.5>> 2 0 R] endobj");
         for (int i = 0; i < 100; i++) {
             x.write(x.entry(0));
             x.alike(0, x.count(1) - 1);
@@ -26,7 +26,7 @@ public final class RoomTest {
         bench.end();
     }
 
-    private static Set<Object> held(SheetObjects x) throws IllegalAccessException {
+    private static Set<Object> held(Used x) throws IllegalAccessException {
         Set<Object> found = Collections.newSetFromMap(new IdentityHashMap<>());
         collect(x, found);
         return found;
@@ -44,7 +44,7 @@ public final class RoomTest {
         }
     }
 
-    private static long elements(SheetObjects x) throws IllegalAccessException {
+    private static long elements(Used x) throws IllegalAccessException {
         long sum = 0;
         for (Object one : held(x)) {
             boolean row = one.getClass().isArray();
