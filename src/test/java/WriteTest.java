@@ -49,8 +49,7 @@ public final class WriteTest {
         bench.due("instead of it", x.page(), "/longername");
         bench.due("once more", x.write(0), 26);
         bench.due("and whole", x.page(), "[ <616263> 1 /longername ]");
-        Scene scene = Scene.ordinary();
-        bench.idle("tape, store and last stay", scene, 17, y -> y.write(0));
+        bench.idle("tape, store and last stay", Scene.ordinary(), 17, y -> y.write(0));
     }
 
     private static void blanks() {
@@ -58,8 +57,12 @@ public final class WriteTest {
         writes("<<>>", "<< >>");
         writes("[[[]]]", "[ [ [ ] ] ]");
         writes("[1 2]", "[ 1 2 ]");
-        writes("<</A(x)/B/C>>", "<< /A <78> /B /C >>");
+        writes("[null true false -1 -2.5 0. ()(x)/ /B[]<<>>1 0 R 2 0 R]",
+                "[ null true false -1 -2.5 0.0 <> <78> / /B [ ] << >> 1 0 R 2 0 R ]");
+        writes("<</A null/B 1/C 2.5/D(x)/E/F/G[]/H<<>>/I 1 0 R>>",
+                "<< /A null /B 1 /C 2.5 /D <78> /E /F /G [ ] /H << >> /I 1 0 R >>");
         writes("7", "7");
+        writes("2.5", "2.5");
     }
 
     private static void words() {
